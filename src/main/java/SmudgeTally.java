@@ -845,6 +845,8 @@ public final class SmudgeTally {
             }
             books.machines[card] = machine;
             books.rows[card] = row;
+            books.truths[card] = 0;
+            books.stages[card] = NOT_DRAWN;
             books.cleaningsBefore[card] = books.cleanings[machine];
             books.cards = card + 1;
             return card;

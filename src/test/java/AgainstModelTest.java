@@ -72,7 +72,9 @@ public final class AgainstModelTest {
     private boolean holds() {
         while (made < CALLS && !wrong) {
             int kind = random.nextInt(100);
-            if (kind < actionShare) {
+            if (random.nextInt(150) == 0) {
+                undoAll();
+            } else if (kind < actionShare) {
                 action();
             } else if (kind < actionShare + 3) {
                 program();
@@ -95,6 +97,13 @@ public final class AgainstModelTest {
         else if (kind < 96) call(7, number(0, 1), 0);
         else if (kind < 96 + undoShare) call(8, 0, 0);
         else call(9, random.nextInt(4) == 0 ? number(1, 255) : " ;0azscan".charAt(random.nextInt(9)), 0);
+    }
+
+    private void undoAll() {
+        for (int i = 0; i < 6; i++) {
+            call(8, 0, 0);
+            for (int j = 0; j < 4; j++) question();
+        }
     }
 
     private void question() {
