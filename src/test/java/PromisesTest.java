@@ -295,6 +295,10 @@ public final class PromisesTest {
         due("outcome", x.outcome(2, 0, -1), 3);
         due("outcome", x.outcome(2, 3, -1), 0);
         due("looked at", x.count(1), 3);
+        SmudgeTally z = doubtful(1);
+        z.draw(0, 1);
+        z.set(1, 5);
+        due("the same outcome as by what was set", z.look(0, 500000000000L), 0);
         SmudgeTally y = smudged();
         y.draw(0, 1);
         int card = onlyDrawn(y);
@@ -619,6 +623,7 @@ public final class PromisesTest {
         failed(x, "draw 0 100000;", 1, 7, 0, NONE);
         failed(x, "look 0 000000;", 1, 7, 0, NONE);
         failed(x, "cleancl 0;", 1, 0, 0, NONE);
+        failed(x, "publishx;", 1, 0, 0, NONE);
         failed(x, "publish", 1, 7, 0, NONE);
         due("history", x.count(9), 0);
         due("a 0 by itself", ran(x, "scan 0 000000000000;"), 1);
@@ -982,6 +987,7 @@ public final class PromisesTest {
 
     private static void error() {
         promise = 23;
+        errorAfterSetting();
         SmudgeTally x = scanned(0, 510000000000L, 320000000000L, 530000000000L, 540000000000L);
         x.scan(1, 500000000000L);
         for (int what = 0; what < 3; what++) due("nothing looked at", x.error(0, what), 0);
@@ -1012,6 +1018,23 @@ public final class PromisesTest {
         due("what 3", x.error(0, 3), INVALID);
     }
 
+    private static void errorAfterSetting() {
+        SmudgeTally x = doubtful(1);
+        x.scan(0, 500000000000L);
+        x.draw(0, 2);
+        x.look(1, 200000000000L);
+        due("no streak", x.error(0, 2), 3);
+        x.undo();
+        x.undo();
+        x.scan(0, 500000000000L);
+        x.draw(0, 3);
+        x.look(1, 200000000000L);
+        x.set(0, 2);
+        due("a streak by what was set", x.error(0, 2), 0);
+        SmudgeTally y = scanned(1, new long[40]);
+        due("of 40 cards", y.error(1, 2), 0);
+    }
+
     private static void byLength() {
         promise = 24;
         SmudgeTally x = scanned(0, 700000000000L, 700000000000L, 0, 700000000000L, 700000000000L, 700000000000L);
@@ -1029,6 +1052,13 @@ public final class PromisesTest {
         due("1", x.byLength(1), INVALID);
         due("10", x.byLength(10), INVALID);
         due("no cards", new SmudgeTally().byLength(2), 0);
+        long[] rows = new long[40];
+        for (int card = 0; card < 40; card++) rows[card] = card % 3 == 0 ? 0 : 600L;
+        SmudgeTally y = scanned(2, rows);
+        due("40 cards", y.byLength(2), 26);
+        due("their streaks by 4", y.count(7), 0);
+        y.set(0, 2);
+        due("their streaks by 2", y.count(7), 13);
     }
 
     private static void drawn() {
@@ -1064,6 +1094,7 @@ public final class PromisesTest {
         }
         x.scan(0, 0);
         due("not in the pool", x.seedFor(7), NONE);
+        due("alone in the pool", doubtful(1).seedFor(0), 0);
         due("card 8", x.seedFor(8), INVALID);
         due("card -1", x.seedFor(-1), INVALID);
         x.draw(x.seedFor(0), 1);
