@@ -1,11 +1,5 @@
 /** Each promise of the document by itself: ordinary inputs, edges and wrong inputs. */
-public final class PromisesTest {
-    private static final int INVALID = SmudgeTally.INVALID_ARGUMENT;
-    private static final int ILLEGAL = SmudgeTally.ILLEGAL_STATE;
-    private static final int FULL = SmudgeTally.CAPACITY_EXCEEDED;
-    private static final int NONE = SmudgeTally.NONE;
-    private static final long MOST = 999999999999L;
-
+public final class PromisesTest extends Given {
     private static int promise = 0;
     private static int wrong = 0;
     private static int checked = 0;
@@ -58,52 +52,12 @@ public final class PromisesTest {
 
     // ---- helpers
 
-    private static SmudgeTally scanned(int machine, long... rows) {
-        SmudgeTally x = new SmudgeTally();
-        for (long row : rows) x.scan(machine, row);
-        return x;
-    }
-
-    private static void write(SmudgeTally x, String text) {
-        for (int i = 0; i < text.length(); i++) x.append(text.charAt(i));
-    }
-
-    private static int ran(SmudgeTally x, String text) {
-        x.clearText();
-        write(x, text);
-        return x.run();
-    }
-
     private static void failed(SmudgeTally x, String text, int kind, int place, int commands, int code) {
         due("run of \"" + text + "\"", ran(x, text), -1000 - place);
         due("kind of \"" + text + "\"", x.failure(0), kind);
         due("place of \"" + text + "\"", x.failure(1), place);
         due("commands of \"" + text + "\"", x.failure(2), commands);
         due("code of \"" + text + "\"", x.failure(3), code);
-    }
-
-    /** Three doubtful cards of machine 0, published, with a fourth that makes a streak: three would change. */
-    private static SmudgeTally smudged() {
-        SmudgeTally x = scanned(0, 500000000000L, 500000000000L, 500000000000L);
-        x.publish();
-        x.scan(0, 500000000000L);
-        return x;
-    }
-
-    /** So many cards, each doubtful in the contest 0 and of no streak. */
-    private static SmudgeTally doubtful(int cards) {
-        SmudgeTally x = new SmudgeTally();
-        for (int card = 0; card < cards; card++) {
-            x.scan(0, 500000000000L);
-            x.clean(0);
-        }
-        return x;
-    }
-
-    private static int onlyDrawn(SmudgeTally x) {
-        int card = 0;
-        while (card < 39 && x.card(card, 3) != 1) card++;
-        return card;
     }
 
     // ---- promises
