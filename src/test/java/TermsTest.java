@@ -463,6 +463,12 @@ public final class TermsTest extends Given {
             due("a mark at " + place, scanned(0, dark(place, 6)).count(3), 0);
         }
         due("too many is not doubtful", scanned(0, 665000000000L).count(3), 0);
+        SmudgeTally past = scanned(0, dark(0, 5), dark(3, 4));
+        due("both are doubtful", past.count(3), 2);
+        past.set(2, 5);
+        due("one of them no more", past.count(3), 1);
+        past.set(1, 5);
+        due("none of them any more", past.count(3), 0);
         said.says("or have another outcome in some contest than in the last version (of which they have to be cards).");
         due("changed ones", changing(40).count(3), 40);
         SmudgeTally y = scanned(0, dark(9, 6), dark(9, 9));
@@ -664,6 +670,8 @@ public final class TermsTest extends Given {
         wrongToken("scan 0 ;", 7);
         wrongToken("scan 0 000000 000000;", 7);
         wrongToken("scan 0 00000000000a;", 7);
+        wrongToken("scan 0 abcdefghijkl;", 7);
+        wrongToken("look 0 publishclean;", 7);
         said.says("any other number a run of 1 to 5 digits,");
         wrongToken("clean ;", 6);
         failed("clean 12345;", 2, 0, 0, INVALID);
@@ -830,6 +838,55 @@ public final class TermsTest extends Given {
         int[] cleanings = {3, 1, 0};
         for (int machine = 0; machine < 3; machine++) due("cleanings", y.card(3 + machine, 2), cleanings[machine]);
         due("it stays", y.restore(1), 3);
+        SmudgeTally z = new SmudgeTally();
+        z.take(0);
+        fill(z);
+        z.take(1);
+        before = withoutHistory(z);
+        z.restore(0);
+        fillOtherwise(z);
+        due("it is another state", withoutHistory(z).equals(before) ? 1 : 0, 0);
+        z.restore(1);
+        said.due("state, where others have stood since", withoutHistory(z), before);
+        due("versions, where others have stood since", restoredVersions(tally -> tally.restore(1)), 50505);
+    }
+
+    /** Three cards that have been looked at, two of them in a version. */
+    private static void fill(SmudgeTally x) {
+        x.clean(0);
+        x.scan(0, dark(0, 5));
+        x.scan(1, dark(0, 4));
+        x.publish();
+        x.scan(0, dark(0, 4));
+        x.draw(0, 3);
+        for (int card = 0; card < 3; card++) x.look(card, dark(card, 7));
+    }
+
+    /** Three others in their place, in two actions: no number, machine, truth or version is the same. */
+    private static void fillOtherwise(SmudgeTally x) {
+        x.set(1, 5);
+        due("others", ran(x, "clean2;clean1;scan2 700000000000;publish;scan2 000400000000;scan1 900400000000;draw 0 2;"
+            + "look1 900000000000;look2 900000000000;"), 9);
+    }
+
+    /** The outcomes of a card in six versions, when six others have stood in their place. */
+    private static int restoredVersions(ToIntFunction<SmudgeTally> back) {
+        SmudgeTally x = new SmudgeTally();
+        x.take(0);
+        x.scan(0, dark(0, 6));
+        for (int version = 0; version < 6; version++) {
+            x.set(1, 6 + version % 2);
+            x.publish();
+        }
+        x.take(1);
+        x.restore(0);
+        due("others", ran(x, "scan1 000000000000;publish;publish;publish;publish;publish;publish;"), 7);
+        for (int version = 0; version < 6; version++) due("another outcome", x.outcome(0, 0, version), 3);
+        back.applyAsInt(x);
+        back.applyAsInt(x);
+        int outcomes = 0;
+        for (int version = 0; version < 6; version++) outcomes = 10 * outcomes + x.outcome(0, 0, version);
+        return outcomes;
     }
 
     private static String withoutHistory(SmudgeTally x) {
@@ -838,6 +895,7 @@ public final class TermsTest extends Given {
         for (int card = 0; card < x.count(0); card++) {
             for (int what = 0; what < 6; what++) told.append(x.card(card, what)).append(' ');
             for (int what = 0; what < 3; what++) told.append(x.place(card, 0, what)).append(' ');
+            told.append(x.runAt(card, 0, 0)).append(' ');
             told.append(x.outcome(card, 0, 0)).append(x.outcome(card, 0, 1)).append('\n');
         }
         return told.toString();
@@ -865,6 +923,8 @@ public final class TermsTest extends Given {
         due("undo", y.undo(), 4);
         said.due("state", withoutHistory(y), before);
         said.due("slots", everythingElse(() -> undone("scan 2 000000000000;clean 0;", true)), slotBefore);
+        due("state, where others have stood since", refilled(), 0);
+        due("versions, where others have stood since", restoredVersions(SmudgeTally::undo), 50505);
         write(y, "clean 7;");
         y.run();
         y.scan(0, 0);
@@ -873,6 +933,19 @@ public final class TermsTest extends Given {
         due("the text is no part of it", y.count(10), 9);
         due("the failure is none", y.failure(2), 0);
         due("the history is none", y.count(9), 4);
+    }
+
+    /** Goes back to cards in whose place others have stood since; answers how often that failed. */
+    private static int refilled() {
+        SmudgeTally x = new SmudgeTally();
+        x.take(0);
+        fill(x);
+        String before = withoutHistory(x);
+        x.restore(0);
+        fillOtherwise(x);
+        int wrong = withoutHistory(x).equals(before) ? 1 : 0;
+        for (int i = 0; i < 3; i++) x.undo();
+        return wrong + (withoutHistory(x).equals(before) ? 0 : 1);
     }
 
     /** Two slots are filled; a program and two other snapshots are undone, or never were. */
